@@ -71,7 +71,7 @@ public final class NailedByWord {
     }
 
     public int promises(int shelf, int i, int n) {
-        if (!isShelf(shelf) || i < 0 || n < 1 || n > MOST_PROMISES) {
+        if (!isShelf(shelf) || n < 1 || n > MOST_PROMISES) {
             return BAD;
         }
         int refusal = shelves[shelf].refusalAsBytes();
@@ -127,7 +127,12 @@ public final class NailedByWord {
     }
 
     public int law() {
-        return tape.becomeLaw(town.law);
+        boolean good = tape.readText();
+        if (good) {
+            town.law.become(tape.codes, tape.written);
+        }
+        tape.length = 0;
+        return good ? 1 : FAULT_AT_0 - tape.at;
     }
 
     public int hard(int promise) {
@@ -281,8 +286,7 @@ public final class NailedByWord {
             || !isPlace(place) || n < 1 || n > MOST_DEEDS || !isBit(what)) {
             return BAD;
         }
-        int nearest = walks.nearestWithChild(man, child, place, n);
-        return what == 0 ? nearest : walks.firstWay(nearest, n);
+        return walks.withChild(man, child, place, n, what);
     }
 
     public int drawn(int seed, int nm, int one, int place) {
@@ -910,17 +914,6 @@ public final class NailedByWord {
             return length;
         }
 
-        int becomeLaw(Law law) {
-            at = 0;
-            written = 0;
-            boolean good = readText();
-            if (good) {
-                law.become(codes, written);
-            }
-            length = 0;
-            return good ? 1 : FAULT_AT_0 - at;
-        }
-
         private int letter() {
             return at < length ? letters[at] : NO_LETTER;
         }
@@ -932,7 +925,9 @@ public final class NailedByWord {
             }
         }
 
-        private boolean readText() {
+        boolean readText() {
+            at = 0;
+            written = 0;
             for (int line = 0; line <= MOST_LETTERS; line++) {
                 if (!readLine()) {
                     return false;
@@ -1060,6 +1055,8 @@ public final class NailedByWord {
     /** Where one can come, day by day, and what he keeps there. */
     private static final class Walks {
         private static final int DRAW_TIMES = 1103515245, DRAW_PLUS = 12345;
+        /** The man's share of the most deeds, as he is first. */
+        private static final int MANS_DEEDS = 3;
 
         private final Town town;
         /** The places that hold the one who is thought of, on each day from today on. */
@@ -1069,7 +1066,7 @@ public final class NailedByWord {
         private int bestWeight;
         private int one;
         private int goal;
-        private int toChild;
+        private int mostForgotten;
 
         Walks(Town town) {
             this.town = town;
@@ -1223,61 +1220,63 @@ public final class NailedByWord {
             return isPlace(v) ? 1 << v : 0;
         }
 
-        int nearestWithChild(int man, int child, int there, int n) {
-            one = man;
+        int withChild(int man, int child, int there, int n, int what) {
             goal = there;
-            toChild = 0;
+            thinkOfTurns(man, child);
+            int where = town.place[man];
+            int first = NO_WAY;
+            int nearest = childsDeed(where, 1, 0, n - 1);
+            int tried = isHeld(where, 0) ? 0 : NO_WAY;
+            for (int way = 0; way < tried; way++) {
+                int far = childsDeed(stepped(where, way), 1, 0, n - 1);
+                first = far < nearest ? way : first;
+                nearest = Math.min(nearest, far);
+            }
+            return what == 0 ? nearest : first;
+        }
+
+        /** Where the man is held by each of his deeds, and by how often the child forgot: nothing else can differ. */
+        private void thinkOfTurns(int man, int child) {
+            int toForget = 0;
             for (int p = 0; p < town.promises; p++) {
-                if (town.to[p] == child) {
-                    toChild |= 1 << p;
+                if (town.to[p] == child && !hasBit(town.forgot, p)) {
+                    toForget |= 1 << p;
                 }
             }
-            return mansDeed(town.place[man], town.day, town.forgot, n);
-        }
-
-        /** The man's first way to come as near; to stay goes ahead of all, as it is all that one who is held can do. */
-        int firstWay(int nearest, int n) {
-            int where = town.place[one];
-            int when = dayBehind(town.day, 1);
-            if (childsDeed(where, when, town.forgot, n - 1) == nearest) {
-                return NO_WAY;
-            }
-            for (int way = 0; way < NO_WAY; way++) {
-                if (childsDeed(stepped(where, way), when, town.forgot, n - 1) == nearest) {
-                    return way;
+            mostForgotten = Math.min(MANS_DEEDS - 1, Integer.bitCount(toForget));
+            Moment m = town.now();
+            for (int times = 0; times <= mostForgotten; times++) {
+                for (int d = times; d < MANS_DEEDS; d++) {
+                    m.day = dayBehind(town.day, d);
+                    gripped[MANS_DEEDS * times + d] = town.gripPlaces(man, m);
                 }
+                int least = Integer.lowestOneBit(toForget);
+                m.forgot |= least;
+                toForget &= ~least;
             }
-            return NO_WAY;
         }
 
-        private int mansDeed(int where, int when, int forgot, int left) {
+        private int mansDeed(int where, int d, int times, int left) {
             if (left <= 0) {
                 return distance(where, goal);
             }
-            int nearest = childsDeed(where, dayBehind(when, 1), forgot, left - 1);
-            Moment m = town.now();
-            m.day = when;
-            m.forgot = forgot;
-            if (town.gripsAt(one, where, m) != 0) {
+            int nearest = childsDeed(where, d + 1, times, left - 1);
+            if (isHeld(where, MANS_DEEDS * times + d)) {
                 return nearest;
             }
             for (int way = 0; way < NO_WAY; way++) {
-                int next = stepped(where, way);
-                if (next != where) {
-                    nearest = Math.min(nearest, childsDeed(next, dayBehind(when, 1), forgot, left - 1));
-                }
+                nearest = Math.min(nearest, childsDeed(stepped(where, way), d + 1, times, left - 1));
             }
             return nearest;
         }
 
-        private int childsDeed(int where, int when, int forgot, int left) {
+        private int childsDeed(int where, int d, int times, int left) {
             if (left <= 0) {
                 return distance(where, goal);
             }
-            int farthest = mansDeed(where, when, forgot, left - 1);
-            int least = Integer.lowestOneBit(toChild & ~forgot);
-            if (least != 0) {
-                farthest = Math.max(farthest, mansDeed(where, when, forgot | least, left - 1));
+            int farthest = mansDeed(where, d, times, left - 1);
+            if (times < mostForgotten) {
+                farthest = Math.max(farthest, mansDeed(where, d, times + 1, left - 1));
             }
             return farthest;
         }
@@ -1311,11 +1310,14 @@ public final class NailedByWord {
          * tell of the others, so that this need not be asked for each choice of them.
          */
         private final int[] gripsLess = new int[MOST_PROMISES + 1];
+        /** To whom each one is held. */
+        private final int[] heldTo = new int[MOST_PEOPLE];
 
         Release(Town town) {
             this.town = town;
         }
 
+        /** Which of his promises are on there today. */
         private int onWhereHeStands(int one) {
             return town.onAt(one, town.place[one], town.day);
         }
@@ -1378,14 +1380,26 @@ public final class NailedByWord {
         }
 
         int fewestPeople() {
-            int everyone = (1 << town.people) - 1;
-            int fewest = everyone;
-            for (int bits = 0; bits < everyone; bits++) {
+            int asked = peopleWhoCanFree();
+            int all = 1 << Integer.bitCount(asked);
+            int fewest = asked;
+            int bits = 0;
+            for (int i = 0; i < all; i++) {
                 if (Integer.bitCount(bits) < Integer.bitCount(fewest) && nobodyIsHeldWithout(bits)) {
                     fewest = bits;
                 }
+                bits = nextPart(bits, asked);
             }
             return fewest;
+        }
+
+        /** Those to whom something was promised that is on where its maker stands; nobody else can free anyone. */
+        private int peopleWhoCanFree() {
+            int bits = 0;
+            for (int one = 0; one < town.people; one++) {
+                bits |= onWhereHeStands(one);
+            }
+            return peopleOf(bits);
         }
 
         private boolean nobodyIsHeldWithout(int people) {
@@ -1404,31 +1418,41 @@ public final class NailedByWord {
         }
 
         int shortestRing() {
+            for (int one = 0; one < town.people; one++) {
+                heldTo[one] = peopleOf(town.gripsNow(one));
+            }
             int shortest = MOST_PEOPLE + 1;
             for (int one = 0; one < town.people; one++) {
-                int reached = holdersOf(1 << one);
+                int reached = heldTo[one];
                 for (int length = 1; length < shortest; length++) {
                     if (hasBit(reached, one)) {
                         shortest = length;
                     }
-                    reached = holdersOf(reached);
+                    reached = nextInRing(reached);
                 }
             }
             return shortest > MOST_PEOPLE ? NOT : shortest;
         }
 
-        /** To whom those promised by whom these are held. */
-        private int holdersOf(int people) {
-            int bits = 0;
-            for (int one = 0; one < town.people; one++) {
-                int grips = hasBit(people, one) ? town.gripsNow(one) : 0;
-                for (int p = 0; p < town.promises; p++) {
-                    if (hasBit(grips, p)) {
-                        bits |= 1 << town.to[p];
-                    }
+        /** To whom these were promised. */
+        private int peopleOf(int bits) {
+            int people = 0;
+            for (int p = 0; p < town.promises; p++) {
+                if (hasBit(bits, p)) {
+                    people |= 1 << town.to[p];
                 }
             }
-            return bits;
+            return people;
+        }
+
+        private int nextInRing(int people) {
+            int next = 0;
+            for (int one = 0; one < town.people; one++) {
+                if (hasBit(people, one)) {
+                    next |= heldTo[one];
+                }
+            }
+            return next;
         }
 
         /**
@@ -1658,8 +1682,9 @@ public final class NailedByWord {
             return i >= 0 && i < length ? (int) elements[i] : BAD;
         }
 
+        /** Whether five elements stand behind so many fives from i on. */
         boolean hasFive(int i, int fives) {
-            return i < length && i + FIVE * fives + FIVE <= length;
+            return i >= 0 && i < length && i + FIVE * fives + FIVE <= length;
         }
 
         /** How many steps it tells, if it is taken for a route. */

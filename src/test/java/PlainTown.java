@@ -218,7 +218,7 @@ public final class PlainTown {
     }
 
     public int promises(int shelf, int i, int n) {
-        if (!in(shelf, 0, 5) || i < 0 || !in(n, 1, 12)) {
+        if (!in(shelf, 0, 5) || !in(n, 1, 12)) {
             return BAD;
         }
         if (shelves[shelf] == null) {
@@ -228,7 +228,7 @@ public final class PlainTown {
             return -12;
         }
         int came = 0;
-        for (long at = i; came < n && at + 4 < row.length && now.vows.size() < 12; at += 5) {
+        for (long at = i; came < n && at >= 0 && at + 4 < row.length && now.vows.size() < 12; at += 5) {
             int k = (int) at;
             if (!may(row[k], row[k + 1], row[k + 2], row[k + 3], row[k + 4])) {
                 break;

@@ -162,7 +162,6 @@ public final class PromisesTest {
         due(4, "shelf -1", x.promises(-1, 0, 1), BAD);
         due(4, "n 0", x.promises(0, 0, 0), BAD);
         due(4, "n 13", x.promises(0, 0, 13), BAD);
-        due(4, "place -1", x.promises(0, -1, 1), BAD);
         x.row(1, 1, 10);
         due(4, "shorts", x.promises(1, 0, 1), -12);
         x.body(0);
@@ -172,6 +171,8 @@ public final class PromisesTest {
         bytes(x, 0, 0, 1, 24, 9, 99, 1, 0, 3, 0, 0, 0, 1, 2, 3);
         due(4, "ends within a five", x.promises(0, 0, 12), 2);
         due(4, "beyond the end", x.promises(0, 60, 1), 0);
+        due(4, "ahead of the row there is none", x.promises(0, -5, 12), 0);
+        due(4, "far ahead of it", x.promises(0, LEAST, 12), 0);
         due(4, "far beyond the end", x.promises(0, MOST, 12), 0);
         due(4, "the last whole five", x.promises(0, 9, 1), 0);
         due(4, "at", x.of(0, 2), 24);
@@ -536,6 +537,12 @@ public final class PromisesTest {
         due(17, "two", x.ring(), 2);
         x.mend(3, 0, 7);
         due(17, "he is elsewhere", x.ring(), 3);
+        NailedByWord y = town(1, 2, 3, 4, 5, 6);
+        for (int one = 0; one < 6; one++) {
+            due(17, "no ring of six yet", y.ring(), NOT);
+            y.promise(10 * one + (one + 1) % 6, 999);
+        }
+        due(17, "all six", y.ring(), 6);
     }
 
     private static void breaks() {
@@ -812,6 +819,14 @@ public final class PromisesTest {
         due(25, "the least is another's and goes first", y.byTurns(1, 14, 3, 0), 0);
         y.mend(0, 6, 1);
         due(25, "then his", y.byTurns(1, 14, 3, 0), 1);
+        y.mend(1, 5, 1);
+        due(25, "held on day 1", y.byTurns(1, 14, 3, 0), 1);
+        due(25, "held on day 1, the child's behind it", y.byTurns(1, 14, 4, 0), 1);
+        due(25, "free on day 2", y.byTurns(1, 14, 5, 0), 0);
+        y.mend(1, 4, 1);
+        due(25, "on from day 1", y.byTurns(1, 14, 3, 0), 1);
+        y.mend(1, 5, 0);
+        due(25, "over on day 1", y.byTurns(1, 14, 3, 0), 0);
     }
 
     private static void drawn() {
@@ -1038,12 +1053,36 @@ public final class PromisesTest {
         }
         due(35, "the oldest five stay", x.of(0, 9), 5);
         due(35, "none", x.undo(), STATE);
+        changesOfUnlikeSorts();
         x.mend(0, 0, 13);
         x.step(0, 1);
         x.day();
         due(35, "deeds are none", x.undo(), 0);
         due(35, "what it was", x.of(0, 0), 12);
         due(35, "the day of a deed", x.of(0, 9), 6);
+    }
+
+    /** 43 changes of places and boots of two people, of which three are lost; then all ways back and on. */
+    private static void changesOfUnlikeSorts() {
+        NailedByWord x = town(0, 0);
+        for (int i = 0; i < 43; i++) {
+            x.mend(i % 2, i / 2 % 2, i % 4 < 2 ? 1 + i / 4 : 9 - i / 4 % 9);
+        }
+        int[] last = {x.of(0, 0), x.of(1, 0), x.of(0, 1), x.of(1, 1)};
+        int changes = x.count(3);
+        for (int i = changes - 1; i >= 0; i--) {
+            due(35, "unlike sorts", x.undo(), i);
+        }
+        int[] first = {1, 1, 9, 3};
+        for (int i = 0; i < 4; i++) {
+            due(35, "three are lost", x.of(i % 2, i / 2), first[i]);
+        }
+        for (int i = changes - 1; i >= 0; i--) {
+            due(36, "unlike sorts", x.redo(), i);
+        }
+        for (int i = 0; i < 4; i++) {
+            due(36, "as they were at last", x.of(i % 2, i / 2), last[i]);
+        }
     }
 
     private static void redo() {
