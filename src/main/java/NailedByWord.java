@@ -1059,7 +1059,7 @@ public final class NailedByWord {
         private static final int MANS_DEEDS = 3;
 
         private final Town town;
-        /** The places that hold the one who is thought of, on each day from today on. */
+        /** The places that hold the one who is thought of, on each day from today on (by turns: see there). */
         private final int[] gripped = new int[MOST_DAYS_OF_YEAR + 1];
         private final int[] ways = new int[MOST_BEST_DAYS];
         private final int[] bestWays = new int[MOST_BEST_DAYS];
@@ -1235,7 +1235,10 @@ public final class NailedByWord {
             return what == 0 ? nearest : first;
         }
 
-        /** Where the man is held by each of his deeds, and by how often the child forgot: nothing else can differ. */
+        /**
+         * Where the man is held ahead of each of his deeds, by how often the child forgot: as the child can but
+         * forget the least one, nothing else differs from game to game.
+         */
         private void thinkOfTurns(int man, int child) {
             int toForget = 0;
             for (int p = 0; p < town.promises; p++) {
