@@ -827,6 +827,16 @@ public final class PromisesTest {
         due(25, "on from day 1", y.byTurns(1, 14, 3, 0), 1);
         y.mend(1, 5, 0);
         due(25, "over on day 1", y.byTurns(1, 14, 3, 0), 0);
+        NailedByWord z = town(11, 0, 1);
+        tell(z, "f*9");
+        z.promise(21, 199);
+        z.promise(1, 999);
+        z.mend(1, 2, 13);
+        due(25, "the child forgets twice", z.byTurns(1, 14, 5, 0), 1);
+        z.promise(21, 199);
+        z.mend(2, 2, 13);
+        z.mend(1, 2, 9);
+        due(25, "only what is the man's holds him", z.byTurns(1, 14, 5, 0), 0);
     }
 
     private static void drawn() {
