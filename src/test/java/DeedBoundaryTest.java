@@ -20,12 +20,14 @@ public final class DeedBoundaryTest {
         image();
         countAsSteps();
         bodies();
+        kinds();
         trace();
         shelves();
         lowestBits();
         refusals();
         promisesFromARow();
         theOneNamedFirst();
+        constants();
         manyCalls();
         s.end();
     }
@@ -358,6 +360,26 @@ public final class DeedBoundaryTest {
         s.due("child holds", y.act(7, 0, LEAST), (LEAST + 7) * 2 - 1);
     }
 
+    private static void kinds() {
+        s.says("holds(..) and so on: the body of its own KIND, or of the next KIND above that has one; super: from the KIND"
+            + " above the body's on.");
+        NailedByWord x = new NailedByWord();
+        for (int kind = 0; kind < 8; kind++) {
+            x.body(kind);
+        }
+        int[][] firsts = {{1, 10, 11, 2}, {20, 10, 11, 2}, {1, 30, 11, 2}, {1, 41, 40, 2}, {20, 10, 11, 50}, {1, 41, 60, 61},
+            {70, 10, 11, 2}, {81, 80, 11, 2}};
+        int[][] lasts = {{1, 1, 11, 11}, {1, 1, 11, 11}, {1, 1, 11, 11}, {1, 1, 11, 11}, {1, 1, 11, 11}, {1, 1, 1, 1},
+            {1, 1, 11, 11}, {1, 11, 11, 11}};
+        for (int kind = 0; kind < 8; kind++) {
+            for (int act = 0; act < 4; act++) {
+                x.act(kind, act, 1);
+                s.due("kind " + kind + ", act " + act + " begins", x.trace(0), firsts[kind][act]);
+                s.due("kind " + kind + ", act " + act + " ends", x.trace(x.count(5) - 1), lasts[kind][act]);
+            }
+        }
+    }
+
     private static void trace() {
         s.says("THE TRACE: numbers of the bodies that ran in the latest act(), as they began; the first 24 are kept.");
         NailedByWord x = new NailedByWord();
@@ -560,6 +582,16 @@ public final class DeedBoundaryTest {
         s.due("BAD, then a size below 0", x.row(0, 5, -1), BAD);
         s.due("BAD, then NOT", x.feeds(25, 99), BAD);
         s.due("BAD, then NOT", x.breaks(0, 2), BAD);
+    }
+
+    private static void constants() {
+        s.says("VOID is -2000000000.");
+        s.due("VOID", NailedByWord.VOID, -2000000000);
+        s.says("public static final int BAD = -1, NOT = -2, FULL = -3, STATE = -5, VOID = -2000000000;");
+        s.due("BAD", NailedByWord.BAD, -1);
+        s.due("NOT", NailedByWord.NOT, -2);
+        s.due("FULL", NailedByWord.FULL, -3);
+        s.due("STATE", NailedByWord.STATE, -5);
     }
 
     private static void manyCalls() {

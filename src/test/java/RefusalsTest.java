@@ -6,8 +6,9 @@ import java.util.List;
 import java.util.Set;
 
 /**
- * "What is answered so changes nothing": two towns alike, of which one is asked all that is refused. Whatever both
- * are asked then they answer alike, what can be undone, done again, laid back, and the law on the tape among it.
+ * "What is answered so changes nothing": two towns alike, of which one is asked all that is refused, and all that is
+ * thought or told only. Whatever both are asked then they answer alike, what can be undone, done again, laid back,
+ * and the law on the tape among it.
  */
 public final class RefusalsTest {
     private static final Set<Long> REFUSED = Set.of(-1L, -2L, -3L, -5L, -11L, -12L, -13L, -14L);
@@ -18,6 +19,10 @@ public final class RefusalsTest {
         141, 999, 1000, 3101, Integer.MAX_VALUE};
     private static final int[] FEW = {Integer.MIN_VALUE, -1, 0, 1, 5, 6, 10, 25, 61, 100, Integer.MAX_VALUE};
     private static final int[] FEWEST = {-1, 0, 2, 5, 6, 60, Integer.MAX_VALUE};
+
+    private static final Set<String> THOUGHTS = Set.of("of", "hard", "route", "held", "best", "soonest", "free", "words", "all",
+        "ring", "breaks", "judge", "can", "who", "feeds", "odds", "rued", "byTurns", "drawn", "led", "trace", "element",
+        "taken", "count");
 
     private static int refusals = 0;
     private static int wrong = 0;
@@ -33,7 +38,7 @@ public final class RefusalsTest {
                 }
             }
         }
-        System.out.println(refusals + " refusals, " + wrong + " wrong");
+        System.out.println(refusals + " calls that change nothing, " + wrong + " wrong");
         System.exit(wrong == 0 && refusals > 10000 ? 0 : 1);
     }
 
@@ -46,7 +51,7 @@ public final class RefusalsTest {
         NailedByWord unasked = town(state);
         for (Object[] tuple : tuples) {
             long first = ((Number) m.invoke(town(state), tuple)).longValue();
-            if (isRefused(m, first)) {
+            if (changesNothing(m, first)) {
                 refusals++;
                 same(state, m.getName() + Arrays.toString(tuple) + " once more", ((Number) m.invoke(asked, tuple)).longValue(), first);
             }
@@ -54,7 +59,10 @@ public final class RefusalsTest {
         compare(state, m.getName(), asked, unasked);
     }
 
-    private static boolean isRefused(Method m, long answer) {
+    private static boolean changesNothing(Method m, long answer) {
+        if (THOUGHTS.contains(m.getName())) {
+            return true;
+        }
         return m.getReturnType() == long.class ? answer == Long.MIN_VALUE : REFUSED.contains(answer);
     }
 
@@ -76,7 +84,7 @@ public final class RefusalsTest {
         }
     }
 
-    /** An empty town; one with some of all; one where all is full; one whose every promise holds, with no boots. */
+    /** An empty town; one with some of all; one where all is full; one with a law, and no boots. */
     private static NailedByWord town(int state) {
         NailedByWord x = new NailedByWord();
         int people = new int[] {0, 3, 6, 2}[state];
@@ -108,9 +116,11 @@ public final class RefusalsTest {
             x.day();
             x.undo();
             x.undo();
-            tape(x, state == 2 ? "w+o".repeat(24).replace("ow", "o-w") : "w+o-f");
+            tape(x, state == 2 ? "w+o".repeat(24).replace("ow", "o-w") : "w+o-f+b");
         }
         if (state == 3) {
+            x.law();
+            tape(x, "w-b");
             x.redo();
             x.redo();
             x.mend(0, 8, 1);

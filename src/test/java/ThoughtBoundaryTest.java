@@ -233,6 +233,13 @@ public final class ThoughtBoundaryTest {
         x.mend(0, 5, 99);
         s.due("99 stays", x.soonest(0, 13), NOT);
         s.due("from corner to corner", x.soonest(1, 24), 8);
+        for (int place = 0; place < 25; place++) {
+            NailedByWord y = Sentences.town(place);
+            for (int there = 0; there < 25; there++) {
+                int apart = Math.abs(place % 5 - there % 5) + Math.abs(place / 5 - there / 5);
+                s.due("from " + place + " to " + there, y.soonest(0, there), apart);
+            }
+        }
     }
 
     private static void free() {
@@ -272,6 +279,10 @@ public final class ThoughtBoundaryTest {
         NailedByWord y = Sentences.nailed(1, 9);
         s.due("one", y.words(0, 0), 1);
         s.due("nothing was let off", y.of(0, 7), 0);
+        Sentences.tell(y, "b=3?9;0");
+        s.due("boots stay, unlike when he breaks it", y.words(0, 0), 1);
+        Sentences.tell(y, "b<3?9;0");
+        s.due("boots stay", y.words(0, 0), 0);
         s.says("WORDS, BREAK of one who is not HELD: none, bits 0.");
         NailedByWord z = Sentences.nailed(12, 5);
         z.mend(0, 1, 0);
@@ -392,6 +403,11 @@ public final class ThoughtBoundaryTest {
         Sentences.alike(x, 1, 31, 99);
         s.due("not seen", x.judge(1, 0), NOT);
         s.due("not seen", x.can(1, 0), 1);
+        for (int place = 0; place < 25; place++) {
+            NailedByWord z = Sentences.town(place);
+            Sentences.bytes(z, 0, 99, 99, place);
+            s.due("not seen at " + place, z.can(0, 0), 1);
+        }
         s.says("each next one (seen or not) one STEP or none on, none, if he is HELD there that DAY");
         NailedByWord y = Sentences.town(12, 0);
         y.promise(1, 902);
@@ -555,6 +571,13 @@ public final class ThoughtBoundaryTest {
         x.mend(0, 5, 0);
         x.mend(0, 9, 1);
         s.due("it is over", x.odds(0, 1), 1);
+        NailedByWord w = Sentences.nailed(3, 9);
+        Sentences.tell(w, "o=2&!f?9;0");
+        s.due("two others are there, forgotten or not", w.odds(0, 1), 8);
+        Sentences.tell(w, "o=1&!f?9;0");
+        s.due("not one", w.odds(0, 1), 1);
+        Sentences.tell(w, "o=3&!f?9;0");
+        s.due("not three", w.odds(0, 1), 1);
         s.says("ODDS: all others are FORGOT as they are.");
         NailedByWord y = Sentences.nailed(2, 9);
         y.mend(1, 2, 13);
@@ -633,6 +656,16 @@ public final class ThoughtBoundaryTest {
         s.due("99 stays", x.byTurns(1, 24, 5, 0), 8);
         x.mend(0, 5, 98);
         s.due("free on 99", x.byTurns(1, 24, 5, 0), 6);
+        s.says("the man wants to be as near as may be to a told PLACE behind them (X and Y apart, added), the child as far");
+        NailedByWord w = Sentences.town(24, 1);
+        s.due("as far as can be, one step", w.byTurns(1, 0, 1, 0), 7);
+        s.due("he is there and stays", w.byTurns(1, 24, 5, 0), 0);
+        s.due("just there", w.byTurns(1, 18, 3, 0), 0);
+        s.due("the child's deed is no step", w.byTurns(1, 18, 2, 0), 1);
+        w.promise(1, 999);
+        s.due("held in the farthest corner", w.byTurns(1, 0, 5, 0), 8);
+        Sentences.tell(w, "f?9;0");
+        s.due("held once it forgets: he is away by then", w.byTurns(1, 0, 3, 0), 6);
         s.says("that, if both do their best; his first STEP (of like ones 4 first, then the least).");
         NailedByWord y = Sentences.town(12, 0);
         s.due("all the way is a step: 4 is not as good", y.byTurns(1, 24, 5, 1), 1);
@@ -677,6 +710,9 @@ public final class ThoughtBoundaryTest {
         s.due("to forget would free him: it does nothing", y.byTurns(1, 14, 5, 0), 2);
         s.due("promised to another one", y.byTurns(2, 14, 5, 0), 2);
         s.due("nobody forgot in deed", y.of(1, 6), 0);
+        y.mend(1, 2, 13);
+        s.due("he goes to 13, and it does nothing, so that he is held there", y.byTurns(1, 14, 3, 0), 1);
+        s.due("nothing is gained by going", y.byTurns(1, 13, 3, 1), 4);
         s.due("no day passed in deed", y.of(0, 9), 0);
     }
 }
