@@ -214,6 +214,42 @@ public final class ThoughtBoundaryTest {
         z.mend(0, 9, 98);
         s.due("on from day 99", z.best(0, 1, -1), 4);
         s.due("day 98", z.best(0, 0, -1), 0);
+        bestOfOneDay();
+        bestOfOneHeld();
+    }
+
+    /** A promise beside him that is on for just one day, and one where he stands. */
+    private static void bestOfOneDay() {
+        for (int day = 0; day < 6; day++) {
+            NailedByWord x = Sentences.nailed(1, 4);
+            x.mend(0, 4, day);
+            x.mend(0, 5, day);
+            for (int t = 0; t < 5; t++) {
+                s.due("there, on day " + day + ", in " + t, x.best(0, t, -1), day <= t ? 4 : 0);
+            }
+            x.mend(0, 2, 13);
+            for (int t = 0; t < 5; t++) {
+                s.due("beside, on day " + day + ", in " + t, x.best(0, t, -1), day > 0 && day <= t ? 4 : 0);
+            }
+        }
+    }
+
+    private static void bestOfOneHeld() {
+        NailedByWord x = Sentences.nailed(2, 9);
+        x.mend(1, 2, 7);
+        s.due("he cannot come up", x.best(0, 4, -1), 9);
+        x.mend(0, 5, 2);
+        s.due("held on day 2", x.best(0, 3, -1), 9);
+        s.due("free on day 3", x.best(0, 4, -1), 18);
+        int[] four = {0, 0, 0, 0};
+        for (int k = 0; k < 4; k++) {
+            s.due("the least while he is held, then up: " + k, x.best(0, 4, k), four[k]);
+        }
+        x.mend(1, 2, 13);
+        s.due("then right", x.best(0, 4, 3), 1);
+        x.mend(0, 3, 0);
+        x.mend(1, 3, 0);
+        s.due("no weight: what was best ahead does not stay", x.best(0, 4, 3), 0);
     }
 
     private static void soonest() {
@@ -283,6 +319,13 @@ public final class ThoughtBoundaryTest {
         s.due("boots stay, unlike when he breaks it", y.words(0, 0), 1);
         Sentences.tell(y, "b<3?9;0");
         s.due("boots stay", y.words(0, 0), 0);
+        NailedByWord w = Sentences.nailed(1, 9);
+        w.promise(10, 599);
+        w.promise(10, 999);
+        s.due("not the other one's", w.words(1, 1), 4);
+        w.mend(2, 3, 0);
+        s.due("not held", w.words(1, 0), 0);
+        s.due("not held", w.words(1, 1), 0);
         s.says("WORDS, BREAK of one who is not HELD: none, bits 0.");
         NailedByWord z = Sentences.nailed(12, 5);
         z.mend(0, 1, 0);
@@ -316,6 +359,8 @@ public final class ThoughtBoundaryTest {
         Sentences.tell(x, "o*9");
         s.due("held by two, of which one is enough", x.all(0), 1);
         s.due("0, to whom all five promised", x.all(1), 1);
+        NailedByWord w = Sentences.nailed(12, 9);
+        s.due("twelve promises to one", w.all(1), 2);
         NailedByWord y = Sentences.town(12, 0, 1, 2);
         Sentences.tell(y, "o*9");
         y.promise(3, 999);
@@ -710,6 +755,8 @@ public final class ThoughtBoundaryTest {
         s.due("to forget would free him: it does nothing", y.byTurns(1, 14, 5, 0), 2);
         s.due("promised to another one", y.byTurns(2, 14, 5, 0), 2);
         s.due("nobody forgot in deed", y.of(1, 6), 0);
+        NailedByWord z = Sentences.nailed(12, 9);
+        s.due("twelve to it, of which it can forget two", z.byTurns(1, 14, 5, 0), 2);
         y.mend(1, 2, 13);
         s.due("he goes to 13, and it does nothing, so that he is held there", y.byTurns(1, 14, 3, 0), 1);
         s.due("nothing is gained by going", y.byTurns(1, 13, 3, 1), 4);
