@@ -1,5 +1,7 @@
 import java.io.File;
 import java.io.IOException;
+import java.lang.reflect.Method;
+import java.lang.reflect.Modifier;
 import java.net.URL;
 import java.net.URLClassLoader;
 import java.nio.file.Files;
@@ -107,6 +109,12 @@ public final class ReadmeTest {
         for (File test : tests == null ? new File[0] : tests) {
             if (test.getName().endsWith("Test.java")) {
                 names(page, test.getName().replace(".java", ""));
+            }
+        }
+        for (Method call : NailedByWord.class.getDeclaredMethods()) {
+            if (Modifier.isPublic(call.getModifiers())
+                && !Pattern.compile("`" + call.getName() + "\\([^`]*\\)`").matcher(page).find()) {
+                fault("does not tell of " + call.getName());
             }
         }
         names(page, ".ci/run");
